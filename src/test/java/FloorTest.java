@@ -17,6 +17,9 @@ public final class FloorTest {
         wayOfOneCell();
         wayRefuses();
         aLongWay();
+        theDearestWay();
+        dearAndCheapSideBySide();
+        aWallAsNearAsTheWay();
         DUE.end();
     }
 
@@ -198,6 +201,61 @@ public final class FloorTest {
         DUE.is("snake: way(0, 120, 76)", x.way(0, 120, 76), 120);
         DUE.is("snake: way(0, 120, 77)", x.way(0, 120, 77), NONE);
         DUE.is("snake: cheapest(120, 0)", x.cheapest(120, 0), 116);
+    }
+
+    /** The same snake, with the highest price all along. */
+    private static void theDearestWay() {
+        PipeHouse x = new PipeHouse();
+        for (int y = 0; y < 12; y++) {
+            for (int c = 0; c < 12; c++) {
+                boolean gate = c == (y % 4 == 1 ? 11 : 0);
+                x.price(12 * y + c, y % 2 == 0 || gate ? 9 : 0);
+            }
+        }
+        DUE.is("dearest: cheapest(0, 132)", x.cheapest(0, 132), (6 * 11 + 5 * 2 + 1) * 9);
+        DUE.is("dearest: cheapest(132, 0)", x.cheapest(132, 0), (6 * 11 + 5 * 2 + 1) * 9);
+        DUE.is("dearest: way(132, 0, 77)", x.way(132, 0, 77), 0);
+        DUE.is("dearest: way(132, 0, 78)", x.way(132, 0, 78), NONE);
+    }
+
+    /** Two corridors to the same goal: a short one of the highest price, a long one of the least. */
+    private static void dearAndCheapSideBySide() {
+        PipeHouse x = new PipeHouse();
+        for (int c = 0; c < 12; c++) {
+            x.price(12 + c, c == 0 || c == 11 ? 1 : 0);
+            x.price(c, 9);
+            x.price(36 + c, 0);
+        }
+        // Along row 0: 11 cells of 9. Through row 2: down 2, along 11, up 1, and the goal's own 9.
+        DUE.is("side by side: cheapest(0, 11)", x.cheapest(0, 11), 2 + 11 + 1 + 9);
+        DUE.is("side by side: cheapest(0, 1)", x.cheapest(0, 1), 9);
+        DUE.is("side by side: cheapest(0, 2)", x.cheapest(0, 2), 18);
+        DUE.is("side by side: cheapest(0, 3)", x.cheapest(0, 3), 27);
+        DUE.is("side by side: cheapest(24, 11)", x.cheapest(24, 11), 11 + 1 + 9);
+        for (int c = 1; c < 12; c++) {
+            x.price(24 + c, 8);
+        }
+        DUE.is("side by side: cheapest(0, 11), 8 for 9", x.cheapest(0, 11), 99);
+        DUE.is("side by side: way(0, 11, 1), 8 for 9", x.way(0, 11, 1), 1);
+        for (int c = 1; c < 12; c++) {
+            x.price(24 + c, 7);
+        }
+        // 2 + 77 + 1 + 9 = 89 is less than 99.
+        DUE.is("side by side: cheapest(0, 11), 7 for 9", x.cheapest(0, 11), 89);
+        DUE.is("side by side: way(0, 11, 1), 7 for 9", x.way(0, 11, 1), 12);
+    }
+
+    /** A ring of 8 cells to 24: the wall in 1 is by one step nearer, for the same price, than 2 beside it. */
+    private static void aWallAsNearAsTheWay() {
+        PipeHouse x = new PipeHouse();
+        for (int cell : new int[] {1, 3, 13, 15, 27, 36, 37, 38}) {
+            x.price(cell, 0);
+        }
+        x.price(12, 2);
+        wayIs(x, 1, 24, 1, 0, 12, 24);
+        wayIs(x, 2, 24, 2, 14, 26, 25, 24);
+        DUE.is("ring: cheapest(1, 24)", x.cheapest(1, 24), 4);
+        DUE.is("ring: cheapest(2, 24)", x.cheapest(2, 24), 4);
     }
 
     private static void wayIs(PipeHouse x, int from, int to, int... cells) {

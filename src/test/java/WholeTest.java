@@ -13,6 +13,8 @@ public final class WholeTest {
         theFirstClashIsTold();
         clashRefuses();
         countsAreTold();
+        whatWasCutDoesNotCount();
+        allNodesCount();
         countRefuses();
         barsOfOneSize();
         wholeBarsComeFirst();
@@ -130,6 +132,13 @@ public final class WholeTest {
         x.main(36, 0);
         x.hang(5, 42, 1);
         clashIs(x, 3, 6, 39);
+        PipeHouse y = new PipeHouse();
+        y.main(12, 0);
+        y.hang(0, 18, 1);
+        y.main(3, 0);
+        y.hang(2, 15, 1);
+        // The other one's own CELL.
+        clashIs(y, 1, 3, 15);
     }
 
     private static void clashRefuses() {
@@ -149,9 +158,7 @@ public final class WholeTest {
         x.units(0, 2);
         // 1 is 300 from its MAIN, 3 is 150, 0 is a MAIN; of 5 it takes 100 * 4 / 40, of 6 (400 + 200) / 200.
         int[] told = {8, 3, 0, 3, 2, 1, 300 + 150 + 100 + 50 + 50, 0, 10};
-        for (int what = 0; what < told.length; what++) {
-            DUE.is("count(" + what + ")", x.count(what), told[what]);
-        }
+        countsAre(x, told);
         x.limit(0, 1);
         x.limit(1, 2);
         x.limit(2, 3);
@@ -164,6 +171,54 @@ public final class WholeTest {
         DUE.is("count(8): none has any", x.count(8), NONE);
         x.units(6, 7);
         DUE.is("count(2): two above the limits", x.count(2), 2);
+    }
+
+    private static void whatWasCutDoesNotCount() {
+        PipeHouse x = crossing(0);
+        x.main(100, 1);
+        x.hang(4, 98, 1);
+        x.main(60, 0);
+        x.units(6, 1);
+        int[] withSix = {7, 4, 0, 3, 2, 1, 550, 0, 2};
+        countsAre(x, withSix);
+        x.cut(6);
+        int[] withFive = {6, 3, 0, 2, 1, 1, 550, 0, 2};
+        countsAre(x, withFive);
+        x.cut(5);
+        int[] withFour = {5, 3, 0, 2, 1, 1, 450, 0, NONE};
+        countsAre(x, withFour);
+        x.cut(3);
+        int[] withTwo = {3, 2, 0, 1, 0, 0, 300, 0, NONE};
+        countsAre(x, withTwo);
+        x.cut(1);
+        int[] withNone = {1, 1, 0, 0, 0, 0, 0, 0, NONE};
+        countsAre(x, withNone);
+        DUE.is("bars(0, 3): all were cut", x.bars(0, 3), 0);
+    }
+
+    private static void allNodesCount() {
+        PipeHouse x = new PipeHouse();
+        for (int k = 0; k < 6; k++) {
+            x.main(12 * k, 0);
+            x.hang(4 * k, 12 * k + 3, 1);
+            x.main(12 * k + 11, 1);
+            x.hang(4 * k + 2, 12 * k + 10, 1);
+        }
+        int[] told = {24, 12, 0, 6, 6, 0, 6 * 150 + 6 * 50, 0, 1};
+        countsAre(x, told);
+        barsAre(x, 0, 12, 2, 0, 12);
+        x.cut(23);
+        x.hang(0, 72, 1);
+        // 23 goes down column 0 over the five other MAINS' CELLS, nowhere 500 above their RUNS.
+        told = new int[] {24, 12, 0, 7, 6, 5, 6 * 150 + 5 * 50 + 300, 0, 1};
+        countsAre(x, told);
+        x.cut(23);
+        x.hang(20, 1, 1);
+        // 23 goes 1, 0, 12 .. 60: in 1 and 0 it lies 500 above the RUN of 1, in 12 to 48 less than 500 above the others.
+        told = new int[] {24, 12, 0, 7, 6, 4, 6 * 150 + 5 * 50 + 300, 1, 1};
+        x.rule(0, 20);
+        countsAre(x, told);
+        clashIs(x, 5, 23, 12);
     }
 
     private static void countRefuses() {
@@ -232,6 +287,8 @@ public final class WholeTest {
         // Each above half of a BAR.
         hangSteps(z, 6, 6, 6, 7);
         barsAre(z, 0, 4, 4, 4 * 599 - 1250, 4);
+        hangSteps(z, 6, 6, 6, 7, 6, 6, 6, 7);
+        barsAre(z, 0, 12, 12, 12 * 599 - 3750, 12);
     }
 
     private static void tooManyPieces() {
@@ -270,6 +327,12 @@ public final class WholeTest {
     private static void hangSteps(PipeHouse x, int... steps) {
         for (int step : steps) {
             x.hang(0, step, 1);
+        }
+    }
+
+    private static void countsAre(PipeHouse x, int... told) {
+        for (int what = 0; what < told.length; what++) {
+            DUE.is("count(" + what + ") of " + told[0], x.count(what), told[what]);
         }
     }
 
