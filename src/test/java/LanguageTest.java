@@ -28,6 +28,7 @@ public final class LanguageTest {
         wordsAreAllowed(text);
         importsAreAllowed(text);
         methodsAreShort(text);
+        onlyConstructorsMakeObjects(text);
         theFaceIsTheDocuments();
         classesInsideAreSmall();
         noPrivateMethodIsNamedAsAPublicOne();
@@ -73,6 +74,15 @@ public final class LanguageTest {
                 DUE.isTrue("the method that ends in line " + line + " is short", line - begun < 60);
                 begun = -1;
             }
+        }
+    }
+
+    /** All calls of a run share one room for what they make: so they make nothing. */
+    private static void onlyConstructorsMakeObjects(String text) {
+        for (String row : text.split("\n")) {
+            boolean field = row.matches(" +private final [\\w\\[\\]]+ \\w+ = new .*;");
+            boolean inConstructor = row.matches(" {8}\\w+ = new [A-Z]\\w*\\(\\);");
+            DUE.isTrue("made in a constructor: " + row, field || inConstructor || !row.matches(".*\\bnew\\b.*"));
         }
     }
 
