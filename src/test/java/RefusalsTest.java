@@ -168,7 +168,7 @@ public final class RefusalsTest {
     }
 
     private static void refuses(String name, int due, Call call) {
-        DUE.sentence("REFUSALS, of several the first in this order: UNKNOWN, OUTSIDE, NOT, FULL");
+        DUE.sentence("of several the first in this order");
         PipeHouse x = house.make();
         DUE.is(name, call.on(x), due);
         DUE.is(name + " again", call.on(x), due);

@@ -32,6 +32,7 @@ public final class WholeEdgesTest {
         countOfAnEmptyHouse();
         countOfAFullHouse();
         countOfRunsWithoutASize();
+        countOfAllRuns();
         theLastCall();
         DUE.end();
     }
@@ -448,6 +449,20 @@ public final class WholeEdgesTest {
         DUE.is("count(2): not its main", x.count(2), 1);
         x.units(1, 7);
         DUE.is("count(2): of both sorts", x.count(2), 2);
+    }
+
+    private static void countOfAllRuns() {
+        DUE.sentence("6 LENGTH of all RUNS, 7 TURNS of all");
+        PipeHouse x = new PipeHouse();
+        x.main(65, 0);
+        countsAre(x, 1, 1, 0, 0, 0, 0, 0, 0, NONE);
+        x.hang(0, 66, 0);
+        countsAre(x, 2, 1, 0, 0, 0, 0, 50, 0, NONE);
+        x.hang(0, 78, 0);
+        countsAre(x, 3, 1, 0, 0, 0, 0, 150, 1, NONE);
+        x.main(65, 1);
+        x.hang(3, 78, 0);
+        countsAre(x, 5, 2, 0, 0, 0, 0, 250, 2, NONE);
     }
 
     private static void theLastCall() {
