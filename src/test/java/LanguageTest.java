@@ -50,6 +50,7 @@ public final class LanguageTest {
         DUE.isTrue("no annotation", !text.contains("@"));
         DUE.isTrue("of System only arraycopy", !Pattern.compile("\\bSystem\\.(?!arraycopy\\b)").matcher(text).find());
         DUE.isTrue("no static initialiser", !Pattern.compile("\\bstatic\\s*\\{").matcher(text).find());
+        DUE.isTrue("no text, so none that is joined by +", text.indexOf('"') < 0);
         DUE.isTrue("signs of ASCII alone", text.chars().allMatch(c -> c < 128));
     }
 
